@@ -282,7 +282,7 @@ public final class SignalHouse {
                 } else if (kind == BESIDE) {
                     codes = Codes.greater(codes, part.atOnce);
                 } else if ((codes & Codes.ZERO) != 0) {
-                    codes = codes & ~Codes.ZERO | part.atOnce;
+                    codes = (codes & ~Codes.ZERO) | part.atOnce;
                 }
             }
             return codes;
@@ -889,7 +889,7 @@ public final class SignalHouse {
             boolean surelyNext = sure && (Codes.mustOf(codes) & Codes.ZERO) != 0;
             int more = weigh(next, true, surelyNext);
             int mustCodes = surelyNext ? Codes.mustOf(more) : Codes.mustOf(codes);
-            return Codes.pair(mustCodes, Codes.canOf(codes) & ~Codes.ZERO | Codes.canOf(more));
+            return Codes.pair(mustCodes, (Codes.canOf(codes) & ~Codes.ZERO) | Codes.canOf(more));
         }
 
         private int weighSuspend(Node node, boolean begun, boolean sure) {
@@ -910,8 +910,8 @@ public final class SignalHouse {
                 codes = weighAlone(node.first, begun, sure);
                 forget(node.value);
             }
-            must = mustBefore | must & ~node.value;
-            can = canBefore | can & ~node.value;
+            must = mustBefore | (must & ~node.value);
+            can = canBefore | (can & ~node.value);
             return codes;
         }
 
@@ -949,7 +949,7 @@ public final class SignalHouse {
         }
 
         private int weighBeside(Node node, boolean begun, boolean sure) {
-            int mustCodes = sure ? Codes.ZERO : 0;
+            int mustCodes = Codes.ZERO;
             int canCodes = Codes.ZERO;
             for (Node part = node.first; part != null; part = part.next) {
                 if (begun || part.standsIn(stood)) {
@@ -1130,7 +1130,7 @@ public final class SignalHouse {
             if (failed) {
                 return output == NONE ? SOUGHT : LEADS_NOWHERE;
             }
-            if (output != NONE && (ticker.outputs >>> output & 1) != 0) {
+            if (output != NONE && (ticker.outputs & 1 << output) != 0) {
                 return SOUGHT;
             }
             nextOfOne = ticker.state;

@@ -157,7 +157,7 @@ public final class OracleTest {
             }
             String in = "abcdef".substring(0, inputs);
             String out = "xyz".substring(0, outputs);
-            String body = same && random.nextInt(3) > 0 ? changed(like) : new Drawn(in, out).beside(0, 4 + random.nextInt(25));
+            String body = same && random.nextInt(3) > 0 ? changed(like) : new Drawn(in, out).beside(0, size());
             like = body;
             text.append((char) ('A' + i)).append('(').append(in).append(')').append(out).append('{').append(body).append('}');
         }
@@ -166,6 +166,10 @@ public final class OracleTest {
             all = changed(all);
         }
         return all.length() > 500 ? all.substring(0, 500) : all;
+    }
+
+    private int size() {
+        return random.nextInt(30) == 0 ? 60 + random.nextInt(60) : 4 + random.nextInt(25);
     }
 
     /** One character is another one, is gone, or is new. */
@@ -197,20 +201,33 @@ public final class OracleTest {
         private final String inputs;
         private final List<Character> emitted = new ArrayList<>();
         private final List<Character> traps = new ArrayList<>();
+        private final boolean inward = random.nextBoolean();
+        private final boolean careless = random.nextInt(30) == 0;
+        private final int outputs;
 
         Drawn(String inputs, String outputs) {
             this.inputs = inputs;
+            this.outputs = outputs.length();
             for (char c : outputs.toCharArray()) {
                 emitted.add(c);
             }
         }
 
         private char anySignal() {
+            if (careless && random.nextInt(10) == 0) {
+                return (char) ('a' + random.nextInt(26));
+            }
             int i = random.nextInt(inputs.length() + emitted.size());
             return i < inputs.length() ? inputs.charAt(i) : emitted.get(i - inputs.length());
         }
 
         private char anyEmitted() {
+            if (careless && random.nextInt(10) == 0) {
+                return (char) ('a' + random.nextInt(26));
+            }
+            if (inward && emitted.size() > outputs && random.nextInt(4) > 0) {
+                return emitted.get(outputs + random.nextInt(emitted.size() - outputs));
+            }
             return emitted.get(random.nextInt(emitted.size()));
         }
 
@@ -275,6 +292,9 @@ public final class OracleTest {
                 case 5:
                     return random.nextInt(3) == 0 ? "^" + anyEmitted() : "1";
                 case 6:
+                    if (careless && random.nextInt(4) == 0) {
+                        return "." + (char) ('A' + random.nextInt(26));
+                    }
                     return traps.isEmpty() ? "!" + anyEmitted() : "." + traps.get(random.nextInt(traps.size()));
                 default:
                     return "!" + anyEmitted();
@@ -304,7 +324,7 @@ public final class OracleTest {
 
         private String local(int depth, int size) {
             char name = (char) ('s' + random.nextInt(5));
-            if (emitted.contains(name) && random.nextInt(20) > 0) {
+            if (emitted.contains(name) && !careless) {
                 return body(depth, size);
             }
             emitted.add(name);

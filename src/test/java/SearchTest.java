@@ -120,6 +120,9 @@ public final class SearchTest {
         told("with itself", house, 2);
         SignalHouse names = Check.house("A(ab)xy{?a(!x)(!y)}B(ba)yx{?b(!y)(!x)}");
         CHECK.due("by place, not by letter", names.differ(0, 1, 9), 0);
+        SignalHouse four = Check.house("A(abcd)x{&d;!x}B(abcd)x{1;1;&d;!x}");
+        CHECK.due("four inputs", four.differ(0, 1, 9), 1);
+        told("four inputs", four, 3, 0, 8);
         SignalHouse second = Check.house("A()xy{!x}B()xy{!y}");
         CHECK.due("sets, not numbers of them", second.differ(0, 1, 9), 1);
         told("sets, not numbers of them", second, 1, 0);

@@ -203,6 +203,9 @@ public final class TickTest {
         failsWith("A()x{$T(.T;@s(?s(0)(!s)))}", 0, 0);
         failsWith("A()x{$T(.T|@s(?s(0)(!s)))}", 0, 2);
         failsWith("A()x{@s(@t(?s(!t)(0)|?t(!s)(0)))}", 0, 2);
+        failsWith("A()x{@s(!s);@s(?s(0)(!s))}", 0, 2);
+        failsWith("A()x{@s(0);@s(?s(0)(!s))}", 0, 2);
+        failsWith("A()x{@s(?s(0)(0));@s(?s(!s)(0))}", 0, 2);
         failsWith("A()x{?x(0)(0);!x}", 0, 1);
         failsWith("A()x{!x;?x(0)(0);!x}", 0, 0);
         failsWith("A()x{1;?x(0)(!x)}", 0, 0);
